@@ -38,6 +38,7 @@ public final class ArgumentEdgesTest {
         Checks.sentence("11: witness at the ends of k, n and x", ArgumentEdgesTest::witnessInside);
         Checks.sentence("11: NONE when cost is NONE for a wrong argument", ArgumentEdgesTest::witnessOutside);
         Checks.sentence("12: matters of no such number", ArgumentEdgesTest::mattersEdges);
+        Checks.sentence("12: some name of some principal, be it the first or the last", ArgumentEdgesTest::mattersToAnyName);
         Checks.sentence("13: trusted at the ends of k", ArgumentEdgesTest::trustedInside);
         Checks.sentence("13: 0 when k is no principal", ArgumentEdgesTest::trustedOutside);
         Checks.sentence("14: trustCost at the ends of k and x", ArgumentEdgesTest::trustCostInside);
@@ -414,6 +415,11 @@ public final class ArgumentEdgesTest {
                 Checks.due("witness of n " + n, r.witness(0, n, 0), NameResolver.NONE);
                 Checks.due("witness of n " + n, r.witness(count - 1, n, count - 1), NameResolver.NONE);
             }
+            NameResolver paths = Checks.with(count, Checks.cert(0, 0, 0, Checks.one(1)),
+                    Checks.cert(0, 0, 0, Checks.two(1, 1)), Checks.cert(0, 1, 0, Checks.EMPTY));
+            for (int x : Checks.outside(count)) {
+                Checks.due("witness of x " + x + " by paths", paths.witness(0, 0, x), NameResolver.NONE);
+            }
         }
     }
 
@@ -431,6 +437,17 @@ public final class ArgumentEdgesTest {
         NameResolver nothing = new NameResolver(6);
         for (int id = -1; id <= 10; id++) {
             Checks.due("matters(" + id + ") of none", nothing.matters(id), false);
+        }
+    }
+
+    private static void mattersToAnyName() {
+        for (int k = 0; k < 6; k++) {
+            for (int n = 0; n < 3; n++) {
+                for (int x = 0; x < 6; x++) {
+                    NameResolver r = Checks.with(6, Checks.cert(k, n, x, Checks.EMPTY));
+                    Checks.due("matters(0) of " + x + " in name " + n + " of " + k, r.matters(0), true);
+                }
+            }
         }
     }
 

@@ -14,6 +14,7 @@ public final class CapacityTest {
         Checks.sentence("2: a number given out again says the new thing", CapacityTest::certificateAnew);
         Checks.sentence("2: six grants leave room for certificates", CapacityTest::certifyBesideAllGrants);
         Checks.sentence("3: takes the last certificate back", CapacityTest::revokeDownToNothing);
+        Checks.sentence("3: what is taken back carries nothing on", CapacityTest::revokeWithinAChain);
         Checks.sentence("3: false for a number that was taken back", CapacityTest::revokeTwice);
         Checks.sentence("4: FULL when six are there", CapacityTest::sixGrants);
         Checks.sentence("4: FULL not before six are there", CapacityTest::grantAfterEachWithdraw);
@@ -21,6 +22,7 @@ public final class CapacityTest {
         Checks.sentence("4: a number given out again says the new thing", CapacityTest::grantAnew);
         Checks.sentence("4: ten certificates leave room for grants", CapacityTest::grantBesideAllCertificates);
         Checks.sentence("5: takes the last grant back", CapacityTest::withdrawDownToNothing);
+        Checks.sentence("5: what is taken back carries nothing on", CapacityTest::withdrawWithinARow);
         Checks.sentence("5: false for a number that was taken back", CapacityTest::withdrawTwice);
         Checks.sentence("6: bit i for certificate i, each alone", CapacityTest::eachCertificateAlone);
         Checks.sentence("7: bit i for grant i, each alone", CapacityTest::eachGrantAlone);
@@ -150,6 +152,21 @@ public final class CapacityTest {
         Checks.due("certify begins at 0 again", r.certify(0, 0, 0, 0), 0);
     }
 
+    /** Name 0 of each of five principals is name 0 of the next one; the last one's is 5 itself. */
+    private static void revokeWithinAChain() {
+        for (int gone = 0; gone < 5; gone++) {
+            NameResolver r = new NameResolver(6);
+            for (int k = 0; k < 5; k++) {
+                r.certify(k, 0, k + 1, k == 4 ? Checks.EMPTY : Checks.one(0));
+            }
+            r.revoke(gone);
+            for (int k = 0; k < 5; k++) {
+                int want = k > gone ? 5 - k : NameResolver.NONE;
+                Checks.due("cost(" + k + ", 0, 5) without " + gone, r.cost(k, 0, 5), want);
+            }
+        }
+    }
+
     private static void revokeTwice() {
         NameResolver r = Checks.full();
         for (int id = 0; id < 10; id++) {
@@ -243,6 +260,21 @@ public final class CapacityTest {
         }
         answersNothing("when all are withdrawn", r, 3);
         Checks.due("grant begins at 0 again", r.grant(0, 0, 0, true), 0);
+    }
+
+    private static void withdrawWithinARow() {
+        for (int gone = 0; gone < 5; gone++) {
+            NameResolver r = new NameResolver(6);
+            for (int k = 0; k < 5; k++) {
+                r.grant(k, k + 1, Checks.EMPTY, true);
+            }
+            r.withdraw(gone);
+            for (int k = 0; k < 5; k++) {
+                int want = k > gone ? 5 - k : NameResolver.NONE;
+                Checks.due("trustCost(" + k + ", 5) without " + gone, r.trustCost(k, 5), want);
+            }
+            Checks.due("trusted(0) without " + gone, r.trusted(0), (2 << gone) - 2);
+        }
     }
 
     private static void withdrawTwice() {

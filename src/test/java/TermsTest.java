@@ -3,10 +3,18 @@
  * holds only so, how far costs count, what a row of grants is, and the last of the 512 calls.
  */
 public final class TermsTest {
-    // Ten certificates that make a member as dear as ten were ever found to make one.
+    // Few certificates lead as far as cost 999: these, each (k, n, p, path), were found by a search.
     private static final int[][] DEAREST_MEMBER = {
         {3, 2, 2, 0}, {3, 1, 2, 12}, {4, 2, 0, 5}, {4, 0, 0, 0}, {0, 0, 3, 0},
         {2, 1, 4, 0}, {0, 0, 0, 12}, {0, 2, 3, 7}, {2, 0, 4, 11}, {2, 2, 0, 6},
+    };
+    private static final int[][] DENOTING_AT_1000 = {
+        {3, 2, 4, 0}, {5, 0, 0, 0}, {4, 2, 5, 0}, {0, 2, 5, 8}, {5, 1, 4, 10},
+        {0, 1, 3, 0}, {3, 0, 4, 11}, {4, 0, 5, 6}, {4, 2, 4, 4}, {5, 0, 5, 7},
+    };
+    private static final int[][] TRUST_AT_999 = {
+        {3, 2, 4, 0}, {5, 0, 0, 0}, {4, 2, 5, 0}, {0, 2, 3, 5}, {5, 1, 4, 10},
+        {0, 1, 3, 0}, {3, 0, 4, 11}, {4, 0, 5, 9}, {4, 2, 4, 4}, {5, 2, 0, 11},
     };
 
     public static void main(String[] args) {
@@ -21,9 +29,13 @@ public final class TermsTest {
         Checks.sentence("a member through ten certificates in a chain", TermsTest::chainOfTen);
         Checks.sentence("each use counted", TermsTest::eachUseCounts);
         Checks.sentence("the least cost is the cost", TermsTest::leastOfMany);
-        Checks.sentence("a dear membership still counts", TermsTest::dearestMember);
+        Checks.sentence("costs up to 999 count: a membership at 921", TermsTest::dearestMember);
+        Checks.sentence("what could be denoted only at 1000 is not", TermsTest::denotingPastTheLimit);
+        Checks.sentence("costs up to 999 count: trust at 999", TermsTest::trustAtTheLimit);
+        Checks.sentence("what could be trusted only at 1000 is not", TermsTest::trustPastTheLimit);
         Checks.sentence("a row of one or more grants", TermsTest::noRowOfNone);
         Checks.sentence("a row of all six grants", TermsTest::rowOfSix);
+        Checks.sentence("principals y0 .. ym: each one may stand within a row", TermsTest::everyOneWithinARow);
         Checks.sentence("every grant of the row but perhaps the last is open", TermsTest::oneGrantNotOpen);
         Checks.sentence("the last grant of a row may be open or not", TermsTest::lastGrantOpenOrNot);
         Checks.sentence("every grant is given by the one before", TermsTest::givenByTheOneBefore);
@@ -216,19 +228,53 @@ public final class TermsTest {
 
     private static void dearestMember() {
         NameResolver r = Checks.with(6, DEAREST_MEMBER);
-        Checks.due("cost", dearest(r), 921);
+        Checks.due("cost(2, 0, 3)", r.cost(2, 0, 3), 921);
+        Checks.due("cost(2, 0, 0)", r.cost(2, 0, 0), 735);
+        Checks.due("witness(2, 0, 3)", r.witness(2, 0, 3), 8);
+        Checks.due("members(2, 0)", r.members(2, 0), 0b011101);
+        Checks.due("denotes(2, 0 1, 2)", r.denotes(2, Checks.two(0, 1), 2), 928);
+        for (int id = 0; id < 10; id++) {
+            Checks.due("matters(" + id + ")", r.matters(id), true);
+        }
     }
 
-    private static int dearest(NameResolver r) {
-        int most = 0;
-        for (int k = 0; k < 6; k++) {
-            for (int n = 0; n < 3; n++) {
-                for (int x = 0; x < 6; x++) {
-                    most = Math.max(most, r.cost(k, n, x));
-                }
-            }
-        }
-        return most;
+    private static void denotingPastTheLimit() {
+        NameResolver r = Checks.with(6, DENOTING_AT_1000);
+        Checks.due("cost(0, 2, 5)", r.cost(0, 2, 5), 667);
+        Checks.due("cost(5, 1, 5)", r.cost(5, 1, 5), 333);
+        Checks.due("denotes(0, 2 1, 4)", r.denotes(0, Checks.two(2, 1), 4), 840);
+        Checks.due("denotes(0, 2 1, 5), by 667 and 333", r.denotes(0, Checks.two(2, 1), 5), NameResolver.NONE);
+        r.grant(1, 0, Checks.two(2, 1), false);
+        Checks.due("trustCost(1, 4)", r.trustCost(1, 4), 841);
+        Checks.due("trustCost(1, 5), by what is not denoted", r.trustCost(1, 5), NameResolver.NONE);
+        Checks.due("trusted(1)", r.trusted(1) & 0b110000, 0b010000);
+    }
+
+    /** 0 trusts 5 at 997, 2 with one grant and one certificate more, 1 with one grant more than 2. */
+    private static NameResolver dearRows() {
+        NameResolver r = Checks.with(6, TRUST_AT_999);
+        r.grant(0, 5, Checks.two(2, 1), true);
+        r.grant(4, 3, Checks.two(0, 2), true);
+        r.grant(3, 5, Checks.two(2, 2), true);
+        r.grant(2, 5, Checks.one(0), true);
+        r.grant(1, 2, Checks.EMPTY, true);
+        return r;
+    }
+
+    private static void trustAtTheLimit() {
+        NameResolver r = dearRows();
+        Checks.due("denotes(5, 2 1, 4)", r.denotes(5, Checks.two(2, 1), 4), 978);
+        Checks.due("trustCost(0, 5)", r.trustCost(0, 5), 997);
+        Checks.due("trustCost(2, 5)", r.trustCost(2, 5), 999);
+        Checks.due("trusted(2)", r.trusted(2), 0b111001);
+    }
+
+    private static void trustPastTheLimit() {
+        NameResolver r = dearRows();
+        Checks.due("denotes(5, 2 1, 5), that would cost 1088", r.denotes(5, Checks.two(2, 1), 5), NameResolver.NONE);
+        Checks.due("trustCost(1, 4), on the way", r.trustCost(1, 4), 835);
+        Checks.due("trustCost(1, 5), one more than 999", r.trustCost(1, 5), NameResolver.NONE);
+        Checks.due("trusted(1)", r.trusted(1), 0b011101);
     }
 
     private static void noRowOfNone() {
@@ -246,10 +292,10 @@ public final class TermsTest {
     }
 
     private static void rowOfSix() {
-        for (int step : new int[] {1, 5}) {
+        for (boolean backwards : new boolean[] {false, true}) {
             NameResolver r = new NameResolver(6);
             for (int i = 0; i < 6; i++) {
-                int k = i * step % 6;
+                int k = backwards ? 5 - i : i;
                 r.grant(k, (k + 1) % 6, Checks.EMPTY, k != 5);
             }
             for (int x = 1; x < 6; x++) {
@@ -259,6 +305,20 @@ public final class TermsTest {
             Checks.due("trustCost(5, 1), past the one not open", r.trustCost(5, 1), NameResolver.NONE);
             Checks.due("trusted(0)", r.trusted(0), 0b111111);
             Checks.due("trusted(5)", r.trusted(5), 0b000001);
+        }
+    }
+
+    private static void everyOneWithinARow() {
+        for (int k = 0; k < 6; k++) {
+            for (int y = 0; y < 6; y++) {
+                for (int x = 0; x < 6; x++) {
+                    NameResolver r = new NameResolver(6);
+                    r.grant(k, y, Checks.EMPTY, true);
+                    r.grant(y, x, Checks.EMPTY, false);
+                    int want = x == y || k == y ? 1 : 2;
+                    Checks.due("trustCost from " + k + " by " + y + " to " + x, r.trustCost(k, x), want);
+                }
+            }
         }
     }
 
