@@ -1,13 +1,16 @@
 import java.io.IOException;
 import java.nio.file.Files;
 import java.nio.file.Path;
+import java.util.Map;
 import java.util.Set;
+import java.util.TreeMap;
+import java.util.TreeSet;
 import java.util.regex.Matcher;
 import java.util.regex.Pattern;
 
 /**
  * The rules of LANGUAGE.md that a look at the words of the source can tell: what is only for the eye
- * (loops that end, indexes looked at, depth of calls) is not tested here.
+ * (loops that end, indexes looked at) is not tested here.
  */
 public final class LanguageTest {
     private static final Path SOURCE = Path.of("src/main/java/NameResolver.java");
@@ -28,6 +31,9 @@ public final class LanguageTest {
         visibility(text);
         arrays(text);
         callsInArguments(text);
+        Map<String, String> methods = methods(text);
+        methodLengths(methods);
+        depthOfCalls(methods);
         System.out.println(wrong == 0 ? "the words keep to the language" : wrong + " places leave the language");
         if (wrong != 0) {
             System.exit(1);
@@ -94,6 +100,53 @@ public final class LanguageTest {
                 }
             }
         }
+    }
+
+    /** The body of each method by its name; a method begins and ends four blanks in. */
+    private static Map<String, String> methods(String text) {
+        Map<String, String> bodies = new TreeMap<>();
+        Matcher method = Pattern.compile("(?ms)^ {4}(?:public|private) [^;={]*?(\\w+)\\([^)]*\\) \\{$(.*?)^ {4}\\}$").matcher(text);
+        while (method.find()) {
+            if (bodies.put(method.group(1), method.group(2)) != null) {
+                fault(1, "two methods with the name " + method.group(1));
+            }
+        }
+        if (bodies.size() < 15) {
+            fault(1, "fewer methods than the document names: " + bodies.keySet());
+        }
+        return bodies;
+    }
+
+    private static void methodLengths(Map<String, String> methods) {
+        for (Map.Entry<String, String> method : methods.entrySet()) {
+            if (method.getValue().lines().count() > 60) {
+                fault(10, method.getKey() + " is longer than sixty lines");
+            }
+        }
+    }
+
+    /** Takes, level by level, the methods that are called; a recursion would never come to an end of it. */
+    private static void depthOfCalls(Map<String, String> methods) {
+        Set<String> level = methods.keySet();
+        for (int deep = 1; deep <= 6; deep++) {
+            level = calledBy(level, methods);
+        }
+        if (!level.isEmpty()) {
+            fault(10, "a recursion, or calls more than six deep, down to " + level);
+        }
+    }
+
+    private static Set<String> calledBy(Set<String> callers, Map<String, String> methods) {
+        Set<String> called = new TreeSet<>();
+        for (String caller : callers) {
+            Matcher call = Pattern.compile("\\b(\\w+)\\(").matcher(methods.get(caller));
+            while (call.find()) {
+                if (methods.containsKey(call.group(1))) {
+                    called.add(call.group(1));
+                }
+            }
+        }
+        return called;
     }
 
     private static String upToClosing(String text, int from) {

@@ -8,6 +8,10 @@ public final class TermsTest {
         {3, 2, 2, 0}, {3, 1, 2, 12}, {4, 2, 0, 5}, {4, 0, 0, 0}, {0, 0, 3, 0},
         {2, 1, 4, 0}, {0, 0, 0, 12}, {0, 2, 3, 7}, {2, 0, 4, 11}, {2, 2, 0, 6},
     };
+    private static final int[][] DENOTING_AT_998 = {
+        {3, 2, 0, 8}, {0, 1, 3, 6}, {2, 0, 0, 0}, {2, 1, 3, 12}, {0, 2, 3, 10},
+        {0, 1, 3, 0}, {3, 1, 0, 10}, {0, 2, 2, 12}, {3, 0, 2, 9}, {2, 2, 2, 0},
+    };
     private static final int[][] DENOTING_AT_1000 = {
         {3, 2, 4, 0}, {5, 0, 0, 0}, {4, 2, 5, 0}, {0, 2, 5, 8}, {5, 1, 4, 10},
         {0, 1, 3, 0}, {3, 0, 4, 11}, {4, 0, 5, 6}, {4, 2, 4, 4}, {5, 0, 5, 7},
@@ -30,6 +34,7 @@ public final class TermsTest {
         Checks.sentence("each use counted", TermsTest::eachUseCounts);
         Checks.sentence("the least cost is the cost", TermsTest::leastOfMany);
         Checks.sentence("costs up to 999 count: a membership at 921", TermsTest::dearestMember);
+        Checks.sentence("costs up to 999 count: denoting at 998, trust by it at 999", TermsTest::denotingNearTheLimit);
         Checks.sentence("what could be denoted only at 1000 is not", TermsTest::denotingPastTheLimit);
         Checks.sentence("costs up to 999 count: trust at 999", TermsTest::trustAtTheLimit);
         Checks.sentence("what could be trusted only at 1000 is not", TermsTest::trustPastTheLimit);
@@ -236,6 +241,17 @@ public final class TermsTest {
         for (int id = 0; id < 10; id++) {
             Checks.due("matters(" + id + ")", r.matters(id), true);
         }
+    }
+
+    private static void denotingNearTheLimit() {
+        NameResolver r = Checks.with(6, DENOTING_AT_998);
+        Checks.due("denotes(3, 1 0, 3), by 699 and 299", r.denotes(3, Checks.two(1, 0), 3), 998);
+        r.grant(1, 3, Checks.two(1, 0), true);
+        r.grant(4, 1, Checks.EMPTY, true);
+        Checks.due("trustCost(1, 3)", r.trustCost(1, 3), 999);
+        Checks.due("trusted(1)", r.trusted(1), 0b001101);
+        Checks.due("trustCost(4, 3), one more than 999", r.trustCost(4, 3), NameResolver.NONE);
+        Checks.due("trusted(4)", r.trusted(4), 0b000111);
     }
 
     private static void denotingPastTheLimit() {
