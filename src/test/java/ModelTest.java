@@ -7,18 +7,6 @@ public final class ModelTest {
     private static final int CALLS = 512;
     private static final int GREATEST_COST = 999;
 
-    // Ten certificates each (owner, name, principal, path) among which names get dear: the runs that
-    // start from one of these come near the greatest cost that counts, and past it.
-    private static final int[][] DEAR = {
-        {3,2,4,0, 5,0,0,0, 4,2,5,0, 0,2,3,5, 5,1,4,10, 0,1,3,0, 3,0,4,11, 4,0,5,9, 4,2,4,4, 5,2,0,11},
-        {3,2,4,0, 5,0,0,0, 4,2,5,0, 0,2,5,8, 5,1,4,10, 0,1,3,0, 3,0,4,11, 4,0,5,6, 4,2,4,4, 5,0,5,7},
-        {5,1,4,12, 4,0,2,11, 5,2,4,0, 4,2,0,6, 0,2,5,7, 2,2,0,5, 2,0,0,0, 4,1,2,0, 0,0,0,12, 0,0,5,0},
-        {2,0,3,0, 2,2,5,8, 3,2,4,10, 5,0,4,12, 4,2,2,12, 3,1,2,0, 3,0,5,0, 5,1,5,10, 5,2,3,7, 3,1,5,4},
-    };
-
-    // Open grants (giver, principal, path) that make long rows with the first of those.
-    private static final int[] DEAR_GRANTS = {0,5,11, 4,3,6, 3,5,12, 2,5,1, 1,2,0};
-
     private static long state = 20261115L;
     private static int wrong = 0;
     private static int greatestSeen = 0;
@@ -43,13 +31,13 @@ public final class ModelTest {
         Model model = new Model(asked);
         int calls = 0;
         if (object % 3 == 1) {
-            int[] dear = DEAR[below(DEAR.length)];
+            int[] dear = Dear.CERTIFICATES[below(Dear.CERTIFICATES.length)];
             for (int i = 0; i < dear.length; i += 4) {
                 certify(object, real, model, dear[i], dear[i + 1], dear[i + 2], dear[i + 3]);
                 calls++;
             }
-            for (int i = 0; i < DEAR_GRANTS.length; i += 3) {
-                grant(object, real, model, DEAR_GRANTS[i], DEAR_GRANTS[i + 1], DEAR_GRANTS[i + 2], true);
+            for (int i = 0; i < Dear.GRANTS.length; i += 3) {
+                grant(object, real, model, Dear.GRANTS[i], Dear.GRANTS[i + 1], Dear.GRANTS[i + 2], true);
                 calls++;
             }
         }
